@@ -253,14 +253,14 @@ public final class CoalVend {
     }
 
     public int named(int i) {
-        if (i < 0) {
-            return NONE;
-        }
         int set = sales.inEachFewest(world.barNow());
-        int behind = i;
+        int seen = 0;
         for (int o = 0; o < OWNERS; o++) {
-            if ((set >> o & 1) == 1 && behind-- == 0) {
-                return o;
+            if ((set >> o & 1) == 1) {
+                if (seen == i) {
+                    return o;
+                }
+                seen++;
             }
         }
         return NONE;
@@ -962,14 +962,14 @@ public final class CoalVend {
                 return;
             }
             int rests = law.isVoid(RESTS) ? NONE : pact.rests;
-            int over = issue;
+            int left = issue;
             for (int i = 0; i < ownerCount; i++) {
                 Owner owner = owners[i];
                 owner.allotment = issue * owner.weight / sum;
                 owner.claim = owner.weight == 0 ? NONE : claimOf(owner, rests, issue * owner.weight % sum);
-                over -= owner.allotment;
+                left -= owner.allotment;
             }
-            giveRests(over);
+            giveRests(left);
         }
 
         private int weighOwners() {
@@ -1057,7 +1057,7 @@ public final class CoalVend {
 
         private int nextOwnerFor(int least) {
             for (int k = 0; k < ownerCount; k++) {
-                int i = turn + k < ownerCount ? turn + k : turn + k - ownerCount;
+                int i = (turn + k) % ownerCount;
                 Owner owner = owners[i];
                 boolean stopped = pact != null && !owner.breaker && owner.vended + LOAD > owner.allotment;
                 if (owner.quality >= least && owner.stock >= LOAD && !stopped) {
@@ -1078,8 +1078,8 @@ public final class CoalVend {
         private void sellLoads(Ship ship) {
             for (int i = 0; i < ship.loads; i++) {
                 Owner owner = owners[ship.cargo[i]];
-                int due = city.priceOf(owner.quality);
-                owner.gain += LOAD * (due - due * owner.rebate / 100 - law.duty - owner.cost);
+                int each = city.priceOf(owner.quality);
+                owner.gain += LOAD * (each - each * owner.rebate / 100 - law.duty - owner.cost);
             }
             city.addLoads(ship.loads);
             sold += ship.loads;
@@ -1096,6 +1096,7 @@ public final class CoalVend {
 
     /** The tape, and what reads it: a text is taken token by token, and the first fault found is kept. */
     private static final class Reader {
+        private static final int COMPARING = 2;
         private final char[] signs = new char[TAPE_SIGNS];
         int length;
         int fault;
@@ -1142,6 +1143,9 @@ public final class CoalVend {
                 refuse(FAULT_TOLD);
             } else if (kind == FALL && draft.falls >= 8) {
                 refuse(FAULT_TOO_MANY);
+            }
+            if (fault != 0) {
+                return;
             }
             next();
             switch (kind) {
@@ -1243,8 +1247,8 @@ public final class CoalVend {
             if (fault != 0) {
                 return null;
             }
-            while (waits > 0) {
-                emitWaiting();
+            for (; waits > 0; waits--) {
+                emitLastWaiting();
             }
             return Arrays.copyOf(code, codeLength);
         }
@@ -1274,8 +1278,8 @@ public final class CoalVend {
             if (open == 0) {
                 return false;
             }
-            while (waits > 0 && waiting[waits - 1] != '(') {
-                emitWaiting();
+            for (; waits > 0 && waiting[waits - 1] != '('; waits--) {
+                emitLastWaiting();
             }
             waits = Math.max(0, waits - 1);
             open--;
@@ -1287,8 +1291,8 @@ public final class CoalVend {
         /** A part that ends is all that each "not" right ahead of it was waiting for. */
         private void endPart() {
             wantsPart = false;
-            while (waits > 0 && waiting[waits - 1] == NOT) {
-                emitWaiting();
+            for (; waits > 0 && waiting[waits - 1] == NOT; waits--) {
+                emitLastWaiting();
                 around--;
             }
         }
@@ -1298,11 +1302,11 @@ public final class CoalVend {
             if (rank == 0) {
                 return false;
             }
-            while (waits > 0 && rankOf(waiting[waits - 1]) >= rank) {
-                if (rank == 2 && rankOf(waiting[waits - 1]) == 2) {
+            for (; waits > 0 && rankOf(waiting[waits - 1]) >= rank; waits--) {
+                if (rank == COMPARING && rankOf(waiting[waits - 1]) == COMPARING) {
                     return false; // a TEST compares once only
                 }
-                emitWaiting();
+                emitLastWaiting();
             }
             pushWaiting();
             wantsPart = true;
@@ -1316,7 +1320,7 @@ public final class CoalVend {
                     return 1;
                 case '<':
                 case '=':
-                    return 2;
+                    return COMPARING;
                 case '+':
                 case '-':
                     return 3;
@@ -1335,10 +1339,9 @@ public final class CoalVend {
             }
         }
 
-        private void emitWaiting() {
-            waits--;
-            if (waits >= 0) {
-                emit(OPERATOR_CODES + waiting[waits]);
+        private void emitLastWaiting() {
+            if (waits > 0) {
+                emit(OPERATOR_CODES + waiting[waits - 1]);
             }
         }
 
