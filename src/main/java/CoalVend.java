@@ -595,7 +595,8 @@ public final class CoalVend {
 
         /** Sails or lies still for a day; true if it comes to the city on it. */
         boolean comesToCity(int wind, int day) {
-            if (wind == WIND_OUT && place == RIVER && isDue(day)) {
+            boolean due = !hasRoom() || loads > 0 && day - came >= 10;
+            if (wind == WIND_OUT && place == RIVER && due) {
                 place = WAY_OUT;
                 left = 4;
             } else if (wind == WIND_HOME && place == CITY && came < day) {
@@ -613,10 +614,6 @@ public final class CoalVend {
             place = place == WAY_OUT ? CITY : RIVER;
             came = day;
             return place == CITY;
-        }
-
-        private boolean isDue(int day) {
-            return !hasRoom() || loads > 0 && day - came >= 10;
         }
 
         void copyFrom(Ship other) {
@@ -762,11 +759,7 @@ public final class CoalVend {
             setFact(ALLOTTED, owner.lastAllotted);
         }
 
-        /** What the code tells, within 0 and 9999; a line that does not stand tells what it does untold. */
-        int limited(int[] code, int untold) {
-            return Math.max(0, Math.min(MOST, reckon(code, untold)));
-        }
-
+        /** What the code of a line tells; null is a line that was not told. */
         int reckon(int[] code, int untold) {
             if (code == null) {
                 return untold;
@@ -893,7 +886,7 @@ public final class CoalVend {
             tellFacts();
             reckoner.setOwner(owner);
             reckoner.setFact(OVER, over);
-            return reckoner.limited(held.fine, 0);
+            return limited(reckoner.reckon(held.fine, 0));
         }
 
         /** Passes the day behind NOW; NOW is told on only at its end, since the facts of a month's first day want it so. */
@@ -901,7 +894,9 @@ public final class CoalVend {
             law = nextLaw;
             if (now % MONTH_DAYS == 0) {
                 renewPact();
-                setAllotments();
+                if (pact != null) {
+                    divideIssue(weighOwners());
+                }
                 for (int i = 0; i < ownerCount; i++) {
                     owners[i].vended = 0;
                 }
@@ -932,7 +927,8 @@ public final class CoalVend {
                 pact = null;
                 return;
             }
-            issue = issueTried != NONE ? issueTried : reckoner.limited(law.isVoid(ISSUE) ? null : pact.issue, MOST);
+            int told = reckoner.reckon(law.isVoid(ISSUE) ? null : pact.issue, MOST);
+            issue = issueTried != NONE ? issueTried : limited(told);
         }
 
         private void tellFacts() {
@@ -950,11 +946,22 @@ public final class CoalVend {
             reckoner.setFact(BREAKERS, Integer.bitCount(breakerSet()));
         }
 
-        private void setAllotments() {
-            if (pact == null) {
-                return;
+        private static int limited(int n) {
+            return Math.max(0, Math.min(MOST, n));
+        }
+
+        private int weighOwners() {
+            int[] line = law.isVoid(WEIGHT) ? null : pact.weight;
+            int sum = 0;
+            for (int i = 0; i < ownerCount; i++) {
+                reckoner.setOwner(owners[i]);
+                owners[i].weight = limited(reckoner.reckon(line, 1));
+                sum += owners[i].weight;
             }
-            int sum = weighOwners();
+            return sum;
+        }
+
+        private void divideIssue(int sum) {
             if (sum == 0) {
                 for (int i = 0; i < ownerCount; i++) {
                     owners[i].allotment = 0;
@@ -970,17 +977,6 @@ public final class CoalVend {
                 left -= owner.allotment;
             }
             giveRests(left);
-        }
-
-        private int weighOwners() {
-            int[] line = law.isVoid(WEIGHT) ? null : pact.weight;
-            int sum = 0;
-            for (int i = 0; i < ownerCount; i++) {
-                reckoner.setOwner(owners[i]);
-                owners[i].weight = reckoner.limited(line, 1);
-                sum += owners[i].weight;
-            }
-            return sum;
         }
 
         private static int claimOf(Owner owner, int rests, int rest) {
@@ -1248,7 +1244,7 @@ public final class CoalVend {
                 return null;
             }
             for (; waits > 0; waits--) {
-                emitLastWaiting();
+                emit(OPERATOR_CODES + waiting[waits - 1]);
             }
             return Arrays.copyOf(code, codeLength);
         }
@@ -1279,7 +1275,7 @@ public final class CoalVend {
                 return false;
             }
             for (; waits > 0 && waiting[waits - 1] != '('; waits--) {
-                emitLastWaiting();
+                emit(OPERATOR_CODES + waiting[waits - 1]);
             }
             waits = Math.max(0, waits - 1);
             open--;
@@ -1292,7 +1288,7 @@ public final class CoalVend {
         private void endPart() {
             wantsPart = false;
             for (; waits > 0 && waiting[waits - 1] == NOT; waits--) {
-                emitLastWaiting();
+                emit(OPERATOR_CODES + waiting[waits - 1]);
                 around--;
             }
         }
@@ -1306,7 +1302,7 @@ public final class CoalVend {
                 if (rank == COMPARING && rankOf(waiting[waits - 1]) == COMPARING) {
                     return false; // a TEST compares once only
                 }
-                emitLastWaiting();
+                emit(OPERATOR_CODES + waiting[waits - 1]);
             }
             pushWaiting();
             wantsPart = true;
@@ -1336,12 +1332,6 @@ public final class CoalVend {
             if (waits < waiting.length) {
                 waiting[waits] = token;
                 waits++;
-            }
-        }
-
-        private void emitLastWaiting() {
-            if (waits > 0) {
-                emit(OPERATOR_CODES + waiting[waits - 1]);
             }
         }
 

@@ -71,6 +71,13 @@ public final class FaultsTest {
         pact("Bar 5;", 1, 0);
         pact(" bars 5;", 1, 1);
         pact("weightweight 5;", 1, 0);
+        pact("barz 5;", 1, 0);
+        pact("bar`5;", 1, 3);
+        pact("bar{5;", 1, 3);
+        pact("bar/5;", 1, 3);
+        pact("bar:5;", 1, 3);
+        pact("bar 5:", 1, 5);
+        pact("bar 9;", 0, 0);
     }
 
     private static void expressions() {
