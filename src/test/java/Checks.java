@@ -5,13 +5,19 @@ import java.util.function.IntSupplier;
 final class Checks {
     private int right;
     private int wrong;
+    private String sentence = "";
+
+    /** What follows tests this sentence of the document. */
+    void sentence(String words) {
+        sentence = "\"" + words + "\": ";
+    }
 
     void due(String what, long want, long got) {
         if (got == want) {
             right++;
         } else {
             wrong++;
-            System.out.println(what + " answered " + got + ", due is " + want);
+            System.out.println(sentence + what + " answered " + got + ", due is " + want);
         }
     }
 

@@ -63,8 +63,10 @@ public final class LanguageTest {
             CHECKS.due(inner + " is static", true, Modifier.isStatic(inner.getModifiers()));
             for (Method method : inner.getDeclaredMethods()) {
                 CHECKS.due(method + " has no name of the face", false, names.contains(method.getName()));
+                CHECKS.due(method + " has seven parameters at most", true, method.getParameterCount() <= 7);
             }
             noStaticState(inner);
+            fewFields(inner);
         }
         for (Method method : CoalVend.class.getDeclaredMethods()) {
             boolean hidden = Modifier.isPrivate(method.getModifiers());
@@ -72,6 +74,7 @@ public final class LanguageTest {
             CHECKS.due(method + " has seven parameters at most", true, method.getParameterCount() <= 7);
         }
         noStaticState(CoalVend.class);
+        fewFields(CoalVend.class);
         CHECKS.due("some twelve classes", true, CoalVend.class.getDeclaredClasses().length <= 12);
     }
 
@@ -80,6 +83,30 @@ public final class LanguageTest {
             int modifiers = field.getModifiers();
             CHECKS.due(field + " is final", true, !Modifier.isStatic(modifiers) || Modifier.isFinal(modifiers));
         }
+    }
+
+    private static void fewFields(Class<?> type) {
+        int fields = 0;
+        for (Field field : type.getDeclaredFields()) {
+            fields += Modifier.isStatic(field.getModifiers()) ? 0 : 1;
+        }
+        CHECKS.due(type + " has some twenty fields", true, fields <= 20);
+    }
+
+    /** A method's last line is the first brace that stands as far to the left as its first line. */
+    private static void shortMethods() throws IOException {
+        List<String> lines = Files.readAllLines(Path.of("src/main/java/CoalVend.java"));
+        Pattern head = Pattern.compile("( {4,8})(?!if|else|for|while|do|switch|return|new)[a-zA-Z].*\\).*\\{");
+        int methods = 0;
+        for (int i = 0; i < lines.size(); i++) {
+            Matcher found = head.matcher(lines.get(i));
+            if (found.matches()) {
+                int end = lines.subList(i, lines.size()).indexOf(found.group(1) + "}");
+                CHECKS.due("sixty lines hold" + lines.get(i), true, end > 0 && end < 60);
+                methods++;
+            }
+        }
+        CHECKS.due("methods were found", true, methods > 100);
     }
 
     private static void words() throws IOException {
@@ -101,6 +128,7 @@ public final class LanguageTest {
 
     public static void main(String[] args) throws IOException {
         face();
+        shortMethods();
         words();
         CHECKS.finish();
     }
